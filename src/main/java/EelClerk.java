@@ -38,12 +38,14 @@ public final class EelClerk {
     private static final int TOP_FAR = 50;
     private static final int LAST_DAY = 999;
     private static final int IMAGES = 2;
+    private static final int MOST_PAIRS = MOST_SPRINGS * MOST_SPRINGS;
+    private static final int LAW_WORDS = 7;
 
     /** More days than any way can take, few enough that sums of it stay an int. */
     private static final int NEVER = 1000000;
 
     /** Told in place of the number of a sum or a test; no sum comes near it. */
-    private static final long BROKEN = Long.MIN_VALUE;
+    private static final long BROKEN = -9000000000000000000L;
 
     // where the words stand of which the orders may ask
     private static final int ORDER_MUD = 5;
@@ -54,11 +56,9 @@ public final class EelClerk {
     private final Parish ahead = new Parish();
     private final Parish drawn = new Parish();
     private final Parish[] images = {new Parish(), new Parish()};
-    private final boolean[] kept = new boolean[IMAGES];
     private final Journal journal = new Journal();
     private final Journal journalAhead = new Journal();
-    private final byte[] tape = new byte[MOST_BYTES];
-    private int tapeLength = 0;
+    private final Tape tape = new Tape();
     private final Reader reader = new Reader();
     private final Asker asker = new Asker();
     private final Paper paper = new Paper();
@@ -149,39 +149,40 @@ public final class EelClerk {
     }
 
     public int feed(int a, int b, int c, int d, int e) {
-        if (tapeLength + 20 > MOST_BYTES) {
+        if (tape.length + 20 > MOST_BYTES) {
             return NONE;
         }
-        put(a);
-        put(b);
-        put(c);
-        put(d);
-        put(e);
-        return tapeLength;
+        tape.put(a);
+        tape.put(b);
+        tape.put(c);
+        tape.put(d);
+        tape.put(e);
+        return tape.length;
     }
 
     public int end(int n) {
-        if (n < 0 || n > tapeLength) {
+        if (n < 0 || n > tape.length) {
             return NONE;
         }
-        tapeLength = n;
+        tape.length = n;
         return n;
     }
 
     public int row() {
-        if (tapeLength == 0) {
+        int length = tape.length;
+        if (length == 0) {
             return refused(BAD_TEXT);
         }
         int told = 0;
         int missed = 0;
-        for (int place = 0; place < tapeLength; place += 3) {
+        for (int place = 0; place < length; place += 3) {
             if (digFromTape(place)) {
                 told++;
             } else {
                 missed++;
             }
         }
-        tapeLength = 0;
+        tape.length = 0;
         bubbles = missed;
         journal.clear();
         return granted(told);
@@ -192,12 +193,12 @@ public final class EelClerk {
     }
 
     public int law() {
-        int length = tapeLength;
-        tapeLength = 0;
         if (now.lawCount >= MOST_LAWS) {
+            tape.length = 0;
             return refused(NO_ROOM);
         }
-        fault = reader.faultIn(tape, length, false);
+        fault = reader.faultIn(tape, false);
+        tape.length = 0;
         if (fault != NONE) {
             return refused(BAD_TEXT);
         }
@@ -205,10 +206,9 @@ public final class EelClerk {
     }
 
     public int orders() {
-        int length = tapeLength;
-        tapeLength = 0;
         stopped = NONE;
-        fault = reader.faultIn(tape, length, true);
+        fault = reader.faultIn(tape, true);
+        tape.length = 0;
         if (fault != NONE) {
             return refused(BAD_TEXT);
         }
@@ -315,8 +315,8 @@ public final class EelClerk {
             return NONE;
         }
         fillPaper();
-        outlet.fill(paper, now, k);
-        return i == NONE ? outlet.days(now.at) : outlet.onWay(now.at, i);
+        outlet.fill(paper, k);
+        return i == NONE ? outlet.days(now.at) : outlet.onWay(paper, now.at, i);
     }
 
     public int heard(int spring, int day) {
@@ -423,7 +423,7 @@ public final class EelClerk {
             return refused(BAD_NUMBER);
         }
         images[k].copyFrom(now);
-        kept[k] = true;
+        images[k].kept = true;
         return granted(0);
     }
 
@@ -431,7 +431,7 @@ public final class EelClerk {
         if (k < 0 || k >= IMAGES) {
             return refused(BAD_NUMBER);
         }
-        if (!kept[k]) {
+        if (!images[k].kept) {
             return refused(NO_SUCH);
         }
         now.copyFrom(images[k]);
@@ -456,7 +456,7 @@ public final class EelClerk {
             case 6:
                 return journal.size;
             case 7:
-                return tapeLength;
+                return tape.length;
             case 8:
                 return refusalsBy(BAD_NUMBER);
             case 9:
@@ -513,21 +513,11 @@ public final class EelClerk {
         return what == 1 ? 10 : 9;
     }
 
-    private void put(int four) {
-        for (int shift = 24; shift >= 0 && tapeLength < tape.length; shift -= 8) {
-            tape[tapeLength] = (byte) (four >> shift);
-            tapeLength++;
-        }
-    }
-
     /** Digs what three bytes of the tape tell; false: they are a bubble. */
     private boolean digFromTape(int place) {
-        if (place < 0 || place + 2 >= tapeLength || place + 2 >= tape.length) {
-            return false;
-        }
-        int one = tape[place] & 255;
-        int other = tape[place + 1] & 255;
-        int far = tape[place + 2] & 255;
+        int one = tape.byteAt(place);
+        int other = tape.byteAt(place + 1);
+        int far = tape.byteAt(place + 2);
         if (now.pairOf(one, other) == NONE || far > TOP_FAR) {
             return false;
         }
@@ -570,12 +560,15 @@ public final class EelClerk {
         for (int clause = 0; clause < text.clauses; clause++) {
             int kind = text.kindOf(clause);
             for (int time = 0; time < text.timesOf(clause); time++) {
-                tellOrderWords(text, done, latest);
-                if (text.value(text.testOf(clause), orderWords, stack) != 1) {
+                if (text.asksSoon) {
+                    paper.fill(now, now.lawInForce(), asker);
+                }
+                tellOrderWords(done, latest);
+                if (text.value(clause, Text.TEST, orderWords, stack) != 1) {
                     continue;
                 }
-                long a = text.value(text.firstOf(clause), orderWords, stack);
-                long b = text.value(text.secondOf(clause), orderWords, stack);
+                long a = text.value(clause, Text.FIRST, orderWords, stack);
+                long b = text.value(clause, Text.SECOND, orderWords, stack);
                 int told = a == BROKEN || b == BROKEN ? CANNOT_BE : act(kind, (int) a, (int) b);
                 if (told < 0) {
                     stopped = clause;
@@ -590,7 +583,8 @@ public final class EelClerk {
         return done;
     }
 
-    private void tellOrderWords(Text text, int done, int latest) {
+    /** How soon the word comes is as the paper has it: of use to a text alone that asks for that. */
+    private void tellOrderWords(int done, int latest) {
         orderWords[0] = now.day;
         orderWords[1] = done;
         orderWords[2] = latest;
@@ -598,12 +592,6 @@ public final class EelClerk {
         orderWords[4] = Long.bitCount(now.shut);
         for (int spring = 0; spring < MOST_SPRINGS; spring++) {
             orderWords[ORDER_MUD + spring] = now.mudOf(spring);
-        }
-        if (!text.asksSoon) {
-            return;
-        }
-        paper.fill(now, now.lawInForce(), asker);
-        for (int spring = 0; spring < MOST_SPRINGS; spring++) {
             orderWords[ORDER_SOON + spring] = paper.soonest(now.at, spring);
         }
     }
@@ -667,6 +655,8 @@ public final class EelClerk {
         int lawCount = 0;
         private final Text[] laws = new Text[MOST_LAWS];
         int force = NONE;
+        /** Of an image alone: whether it is one yet. */
+        boolean kept = false;
 
         void copyFrom(Parish other) {
             springs = other.springs;
@@ -682,7 +672,9 @@ public final class EelClerk {
             System.arraycopy(other.heardAt, 0, heardAt, 0, MOST_HEARD);
             System.arraycopy(other.heardOn, 0, heardOn, 0, MOST_HEARD);
             lawCount = other.lawCount;
-            System.arraycopy(other.laws, 0, laws, 0, MOST_LAWS);
+            for (int law = 0; law < MOST_LAWS; law++) {
+                laws[law] = other.laws[law];
+            }
             force = other.force;
         }
 
@@ -806,9 +798,9 @@ public final class EelClerk {
             return lawOf(force);
         }
 
-        /** Of which of these the words of a law tell: see Reader.lawWord(). */
+        /** In the order of Reader.lawWord(). */
         void tellChannel(int one, int other, int[] words) {
-            if (words.length < 7) {
+            if (words.length < LAW_WORDS) {
                 return;
             }
             words[0] = one;
@@ -821,7 +813,7 @@ public final class EelClerk {
         }
 
         void tellSpring(int spring, int[] words) {
-            if (words.length < 7) {
+            if (words.length < LAW_WORDS) {
                 return;
             }
             words[0] = spring;
@@ -973,31 +965,36 @@ public final class EelClerk {
         static final int END = 13;
         private static final long BEYOND = 1000000000L;
 
+        // what a clause can have: its sums, its test
+        static final int FIRST = 0;
+        static final int SECOND = 1;
+        static final int TEST = 2;
+        private static final int STARTS = 3;
+
         private final int[] code;
         int length = 0;
         int clauses = 0;
         boolean asksSoon = false;
         private final int[] kinds = new int[MOST_CLAUSES];
         private final int[] times = new int[MOST_CLAUSES];
-        private final int[] firsts = new int[MOST_CLAUSES];
-        private final int[] seconds = new int[MOST_CLAUSES];
-        private final int[] tests = new int[MOST_CLAUSES];
+        private final int[] starts = new int[MOST_CLAUSES * STARTS];
 
         Text(int room) {
             code = new int[room > 0 ? room : 0];
         }
 
         Text copied() {
-            Text copy = new Text(length);
-            System.arraycopy(code, 0, copy.code, 0, copy.code.length);
-            copy.length = length;
+            int room = length < code.length ? length : code.length;
+            Text copy = new Text(room);
+            for (int place = 0; place < copy.code.length && place < room; place++) {
+                copy.code[place] = code[place];
+            }
+            copy.length = room;
             copy.clauses = clauses;
             copy.asksSoon = asksSoon;
             System.arraycopy(kinds, 0, copy.kinds, 0, MOST_CLAUSES);
             System.arraycopy(times, 0, copy.times, 0, MOST_CLAUSES);
-            System.arraycopy(firsts, 0, copy.firsts, 0, MOST_CLAUSES);
-            System.arraycopy(seconds, 0, copy.seconds, 0, MOST_CLAUSES);
-            System.arraycopy(tests, 0, copy.tests, 0, MOST_CLAUSES);
+            System.arraycopy(starts, 0, copy.starts, 0, MOST_CLAUSES * STARTS);
             return copy;
         }
 
@@ -1005,16 +1002,28 @@ public final class EelClerk {
             length = 0;
             clauses = 0;
             asksSoon = false;
+            Arrays.fill(starts, NONE);
         }
 
+        /** The clause that is begun last is the one of which times and starts are told. */
         void begin(int kind) {
             if (clauses >= 0 && clauses < MOST_CLAUSES) {
                 kinds[clauses] = kind;
                 times[clauses] = 1;
-                firsts[clauses] = NONE;
-                seconds[clauses] = NONE;
-                tests[clauses] = NONE;
                 clauses++;
+            }
+        }
+
+        void repeat(int count) {
+            if (clauses > 0 && clauses <= MOST_CLAUSES) {
+                times[clauses - 1] = count;
+            }
+        }
+
+        void start(int which) {
+            int place = (clauses - 1) * STARTS + which;
+            if (place >= 0 && place < starts.length) {
+                starts[place] = length;
             }
         }
 
@@ -1026,41 +1035,9 @@ public final class EelClerk {
             return clause >= 0 && clause < MOST_CLAUSES ? times[clause] : 0;
         }
 
-        int firstOf(int clause) {
-            return clause >= 0 && clause < MOST_CLAUSES ? firsts[clause] : NONE;
-        }
-
-        int secondOf(int clause) {
-            return clause >= 0 && clause < MOST_CLAUSES ? seconds[clause] : NONE;
-        }
-
-        int testOf(int clause) {
-            return clause >= 0 && clause < MOST_CLAUSES ? tests[clause] : NONE;
-        }
-
-        /** These four speak of the clause that was begun last. */
-        void setTimes(int value) {
-            if (clauses > 0 && clauses <= MOST_CLAUSES) {
-                times[clauses - 1] = value;
-            }
-        }
-
-        void setFirst(int place) {
-            if (clauses > 0 && clauses <= MOST_CLAUSES) {
-                firsts[clauses - 1] = place;
-            }
-        }
-
-        void setSecond(int place) {
-            if (clauses > 0 && clauses <= MOST_CLAUSES) {
-                seconds[clauses - 1] = place;
-            }
-        }
-
-        void setTest(int place) {
-            if (clauses > 0 && clauses <= MOST_CLAUSES) {
-                tests[clauses - 1] = place;
-            }
+        private int startOf(int clause, int which) {
+            int place = clause * STARTS + which;
+            return place >= 0 && place < starts.length ? starts[place] : NONE;
         }
 
         void emit(int what, int with) {
@@ -1078,11 +1055,11 @@ public final class EelClerk {
         }
 
         /** What a sum or a test tells, 1 for one that is not there, or BROKEN. */
-        long value(int start, int[] words, long[] stack) {
-            if (start < 0) {
+        long value(int clause, int which, int[] words, long[] stack) {
+            int place = startOf(clause, which);
+            if (place < 0) {
                 return 1;
             }
-            int place = start;
             int high = 0;
             for (int steps = 0; steps <= length && place < length && place < code.length; steps++) {
                 int what = code[place] & (1 << BITS) - 1;
@@ -1148,324 +1125,88 @@ public final class EelClerk {
         }
     }
 
-    /** Reads both languages. Where a private method tells false, the token at hand is the fault. */
-    private static final class Reader {
-        private static final int AT_END = 0;
-        private static final int LETTERS = 1;
-        private static final int DIGITS = 2;
-        private static final int SIGN = 3;
+    /** The bytes that were fed; while they are read, the token of them that is at hand. */
+    private static final class Tape {
+        static final int AT_END = 0;
+        static final int LETTERS = 1;
+        static final int DIGITS = 2;
+        static final int SIGN = 3;
+        private static final int BLANK = 4;
         private static final int TOP_NUMBER = 1000;
 
-        /** What was read last; room for one number of code a byte and one more a sum or a test. */
-        final Text text = new Text(MOST_BYTES + 3 * MOST_CLAUSES);
-        private byte[] tape;
-        private int length;
-        private boolean ofOrders;
-        private int from;
-        private int to;
-        private int token;
-        private int number;
-        private int parts;
-        private int brackets;
+        private final byte[] bytes = new byte[MOST_BYTES];
+        int length = 0;
+        int from = 0;
+        private int to = 0;
+        int token = AT_END;
+        /** What the digits at hand tell; one that is too large is just that, however many they are. */
+        int number = 0;
 
-        /** Where the fault is; NONE: there is none, and the text stands. */
-        int faultIn(byte[] bytes, int itsLength, boolean orders) {
-            tape = bytes;
-            length = itsLength < bytes.length ? itsLength : bytes.length;
-            ofOrders = orders;
+        void put(int four) {
+            for (int shift = 24; shift >= 0; shift -= 8) {
+                if (length >= 0 && length < bytes.length) {
+                    bytes[length] = (byte) (four >> shift);
+                    length++;
+                }
+            }
+        }
+
+        /** Behind the end: what no byte is. */
+        int byteAt(int place) {
+            return place >= 0 && place < length && place < bytes.length ? bytes[place] & 255 : 256;
+        }
+
+        void begin() {
             to = 0;
-            parts = 0;
-            brackets = 0;
-            text.clear();
             next();
-            return readClauses() ? NONE : from;
         }
 
-        private boolean readClauses() {
-            for (int clause = 0; clause < MOST_CLAUSES; clause++) {
-                if (!(ofOrders ? readOrder() : readLaw()) || !readIf()) {
-                    return false;
-                }
-                if (token == AT_END) {
-                    return true;
-                }
-                if (!takeSign(';')) {
-                    return false;
-                }
+        /** The next token is at hand then; at the end it stays there. */
+        void next() {
+            int place = to;
+            while (place < length && kindAt(place) == BLANK) {
+                place++;
             }
-            return false;
+            from = place;
+            token = kindAt(place);
+            int end = token == SIGN ? place + 1 : length;
+            while (place < end && kindAt(place) == token) {
+                place++;
+            }
+            to = place;
+            number = token == DIGITS ? numberAtHand() : 0;
         }
 
-        private boolean readLaw() {
-            if (takeWord("bars")) {
-                text.begin(BARS);
-                return true;
+        private int kindAt(int place) {
+            if (place < 0 || place >= length || place >= bytes.length) {
+                return AT_END;
             }
-            if (takeWord("takes")) {
-                text.begin(TAKES);
-            } else if (takeWord("weighs")) {
-                text.begin(WEIGHS);
-            } else if (takeWord("settles")) {
-                text.begin(SETTLES);
-            } else {
-                return false;
+            int sign = bytes[place];
+            if (sign >= 'a' && sign <= 'z') {
+                return LETTERS;
             }
-            text.setFirst(text.length);
-            return readWholeSum();
+            if (sign >= '0' && sign <= '9') {
+                return DIGITS;
+            }
+            return sign == ' ' ? BLANK : SIGN;
         }
 
-        private boolean readOrder() {
-            boolean two = false;
-            boolean any = true;
-            if (takeWord("swim")) {
-                text.begin(SWIM);
-            } else if (takeWord("gate")) {
-                text.begin(GATE);
-                two = true;
-            } else if (takeWord("stir")) {
-                text.begin(STIR);
-                two = true;
-            } else if (takeWord("pass")) {
-                text.begin(PASS);
-                any = false;
-            } else {
-                return false;
-            }
-            if (any) {
-                text.setFirst(text.length);
-                if (!readWholeSum()) {
-                    return false;
+        private int numberAtHand() {
+            int value = 0;
+            for (int place = from; place >= 0 && place < to && place < bytes.length; place++) {
+                value = value * 10 + bytes[place] - '0';
+                if (value > TOP_NUMBER) {
+                    return TOP_NUMBER + 1;
                 }
             }
-            if (two) {
-                if (!takeWord("to")) {
-                    return false;
-                }
-                text.setSecond(text.length);
-                if (!readWholeSum()) {
-                    return false;
-                }
-            }
-            return readTimes();
+            return value;
         }
 
-        private boolean readTimes() {
-            if (!takeWord("times")) {
-                return true;
-            }
-            if (token != DIGITS || number < 1 || number > 20) {
-                return false;
-            }
-            text.setTimes(number);
-            next();
-            return true;
+        boolean isNumber() {
+            return token == DIGITS && number <= TOP_NUMBER;
         }
 
-        private boolean readIf() {
-            if (!takeWord("if")) {
-                return true;
-            }
-            text.setTest(text.length);
-            if (!readTest()) {
-                return false;
-            }
-            text.emit(Text.END, 0);
-            return true;
-        }
-
-        private boolean readWholeSum() {
-            if (!readSum()) {
-                return false;
-            }
-            text.emit(Text.END, 0);
-            return true;
-        }
-
-        private boolean readTest() {
-            if (!readBoth()) {
-                return false;
-            }
-            for (int more = 0; more < MOST_BYTES && takeWord("or"); more++) {
-                int place = text.length;
-                text.emit(Text.OR, 0);
-                if (!readBoth()) {
-                    return false;
-                }
-                text.land(place, Text.OR);
-            }
-            return true;
-        }
-
-        private boolean readBoth() {
-            if (!readPlain()) {
-                return false;
-            }
-            for (int more = 0; more < MOST_BYTES && takeWord("and"); more++) {
-                int place = text.length;
-                text.emit(Text.AND, 0);
-                if (!readPlain()) {
-                    return false;
-                }
-                text.land(place, Text.AND);
-            }
-            return true;
-        }
-
-        private boolean readPlain() {
-            boolean turned = false;
-            for (int more = 0; more < MOST_BYTES && takeWord("not"); more++) {
-                turned = !turned;
-            }
-            boolean read = signIs('(') ? readBracketed('(', ')') : readComparison();
-            if (read && turned) {
-                text.emit(Text.NOT, 0);
-            }
-            return read;
-        }
-
-        private boolean readBracketed(char open, char close) {
-            if (brackets >= MOST_BRACKETS || !takeSign(open)) {
-                return false;
-            }
-            brackets++;
-            if (!(open == '(' ? readTest() : readSum()) || !takeSign(close)) {
-                return false;
-            }
-            brackets--;
-            return true;
-        }
-
-        private boolean readComparison() {
-            if (!readSum()) {
-                return false;
-            }
-            int what;
-            if (takeSign('<')) {
-                what = Text.BELOW;
-            } else if (takeSign('>')) {
-                what = Text.ABOVE;
-            } else if (takeSign('=')) {
-                what = Text.EQUAL;
-            } else {
-                return false;
-            }
-            if (!readSum()) {
-                return false;
-            }
-            text.emit(what, 0);
-            return true;
-        }
-
-        private boolean readSum() {
-            if (!readTerm()) {
-                return false;
-            }
-            for (int more = 0; more < MOST_BYTES && (signIs('+') || signIs('-')); more++) {
-                int what = signIs('+') ? Text.ADD : Text.LESSEN;
-                next();
-                if (!readTerm()) {
-                    return false;
-                }
-                text.emit(what, 0);
-            }
-            return true;
-        }
-
-        private boolean readTerm() {
-            if (!readPart()) {
-                return false;
-            }
-            for (int more = 0; more < MOST_BYTES && (signIs('*') || signIs('/') || signIs('%')); more++) {
-                int what = signIs('*') ? Text.MULTIPLY : signIs('/') ? Text.DIVIDE : Text.REST;
-                next();
-                if (!readPart()) {
-                    return false;
-                }
-                text.emit(what, 0);
-            }
-            return true;
-        }
-
-        private boolean readPart() {
-            if (signIs('[')) {
-                return readBracketed('[', ']');
-            }
-            if (parts >= MOST_PARTS || token != DIGITS && token != LETTERS) {
-                return false;
-            }
-            if (token == DIGITS) {
-                if (number > TOP_NUMBER) {
-                    return false;
-                }
-                text.emit(Text.NUMBER, number);
-            } else if (ofOrders && (wordIs("mud") || wordIs("soon"))) {
-                if (!readOfSpring()) {
-                    return false;
-                }
-            } else {
-                int word = ofOrders ? orderWord() : lawWord();
-                if (word == NONE) {
-                    return false;
-                }
-                text.emit(Text.WORD, word);
-            }
-            parts++;
-            next();
-            return true;
-        }
-
-        private boolean readOfSpring() {
-            boolean soon = wordIs("soon");
-            next();
-            if (token != DIGITS || number >= MOST_SPRINGS) {
-                return false;
-            }
-            text.emit(Text.WORD, (soon ? ORDER_SOON : ORDER_MUD) + number);
-            text.asksSoon |= soon;
-            return true;
-        }
-
-        /** The place of the word at hand among those that Parish.tellChannel() tells. */
-        private int lawWord() {
-            if (wordIs("from")) {
-                return 0;
-            }
-            if (wordIs("to")) {
-                return 1;
-            }
-            if (wordIs("far")) {
-                return 2;
-            }
-            if (wordIs("fall")) {
-                return 3;
-            }
-            if (wordIs("mud")) {
-                return 4;
-            }
-            if (wordIs("day")) {
-                return 5;
-            }
-            return wordIs("mood") ? 6 : NONE;
-        }
-
-        /** The place of the word at hand among those that EelClerk.tellOrderWords() tells. */
-        private int orderWord() {
-            if (wordIs("day")) {
-                return 0;
-            }
-            if (wordIs("done")) {
-                return 1;
-            }
-            if (wordIs("latest")) {
-                return 2;
-            }
-            if (wordIs("at")) {
-                return 3;
-            }
-            return wordIs("shut") ? 4 : NONE;
-        }
-
-        private boolean wordIs(String word) {
+        boolean isWord(String word) {
             if (token != LETTERS || to - from != word.length()) {
                 return false;
             }
@@ -1477,82 +1218,327 @@ public final class EelClerk {
             return true;
         }
 
-        private boolean takeWord(String word) {
-            if (!wordIs(word)) {
-                return false;
+        boolean takeWord(String word) {
+            boolean is = isWord(word);
+            if (is) {
+                next();
             }
-            next();
-            return true;
+            return is;
         }
 
-        private boolean signIs(char sign) {
+        boolean isSign(char sign) {
             return token == SIGN && byteAt(from) == sign;
         }
 
-        private boolean takeSign(char sign) {
-            if (!signIs(sign)) {
+        boolean takeSign(char sign) {
+            boolean is = isSign(sign);
+            if (is) {
+                next();
+            }
+            return is;
+        }
+    }
+
+    /** Reads both languages. Where a private method tells false, the token at hand is the fault. */
+    private static final class Reader {
+        private static final int MOST_TIMES = 20;
+
+        /** What was read last: a number of code for each token at most, and one for each sum's, each test's end. */
+        final Text text = new Text(MOST_BYTES + 3 * MOST_CLAUSES);
+        private boolean ofOrders = false;
+        private int parts = 0;
+        private int brackets = 0;
+
+        /** Where the fault is; NONE: there is none, and the text stands. */
+        int faultIn(Tape tape, boolean orders) {
+            ofOrders = orders;
+            parts = 0;
+            brackets = 0;
+            text.clear();
+            tape.begin();
+            for (int clause = 0; clause < MOST_CLAUSES; clause++) {
+                if (!readClause(tape)) {
+                    return tape.from;
+                }
+                if (tape.token == Tape.AT_END) {
+                    return NONE;
+                }
+                if (!tape.takeSign(';')) {
+                    return tape.from;
+                }
+            }
+            return tape.from;
+        }
+
+        private boolean readClause(Tape tape) {
+            int kind = ofOrders ? takeOrder(tape) : takeLaw(tape);
+            if (kind == NONE) {
                 return false;
             }
-            next();
+            text.begin(kind);
+            int sums = ofOrders ? sumsOfOrder(kind) : sumsOfLaw(kind);
+            for (int sum = 0; sum < sums; sum++) {
+                if (sum > 0 && !tape.takeWord("to")) {
+                    return false;
+                }
+                text.start(sum == 0 ? Text.FIRST : Text.SECOND);
+                if (!readSum(tape)) {
+                    return false;
+                }
+                text.emit(Text.END, 0);
+            }
+            if (ofOrders && tape.takeWord("times") && !readTimes(tape)) {
+                return false;
+            }
+            if (!tape.takeWord("if")) {
+                return true;
+            }
+            text.start(Text.TEST);
+            if (!readTest(tape)) {
+                return false;
+            }
+            text.emit(Text.END, 0);
             return true;
         }
 
-        /** Behind the end of the text: a byte that none is. */
-        private int byteAt(int place) {
-            return place >= 0 && place < length && place < tape.length ? tape[place] & 255 : 256;
+        private static int takeLaw(Tape tape) {
+            if (tape.takeWord("takes")) {
+                return TAKES;
+            }
+            if (tape.takeWord("weighs")) {
+                return WEIGHS;
+            }
+            if (tape.takeWord("settles")) {
+                return SETTLES;
+            }
+            return tape.takeWord("bars") ? BARS : NONE;
         }
 
-        /** The next token is at hand then; at the end of the text it stays there. */
-        private void next() {
-            int place = to;
-            while (place < length && byteAt(place) == ' ') {
-                place++;
-            }
-            from = place;
-            number = 0;
-            token = kindAt(place);
-            if (token == AT_END) {
-                to = place;
-                return;
-            }
-            place++;
-            while (token != SIGN && place < length && kindAt(place) == token) {
-                place++;
-            }
-            to = place;
-            if (token == DIGITS) {
-                number = numberAtHand();
-            }
+        private static int sumsOfLaw(int kind) {
+            return kind == BARS ? 0 : 1;
         }
 
-        private int kindAt(int place) {
-            int sign = byteAt(place);
-            if (sign > 255) {
-                return AT_END;
+        private static int takeOrder(Tape tape) {
+            if (tape.takeWord("swim")) {
+                return SWIM;
             }
-            if (sign >= 'a' && sign <= 'z') {
-                return LETTERS;
+            if (tape.takeWord("gate")) {
+                return GATE;
             }
-            return sign >= '0' && sign <= '9' ? DIGITS : SIGN;
+            if (tape.takeWord("stir")) {
+                return STIR;
+            }
+            return tape.takeWord("pass") ? PASS : NONE;
         }
 
-        /** One that is too large stays so, however many digits it has. */
-        private int numberAtHand() {
-            int value = 0;
-            for (int place = from; place < to; place++) {
-                value = value * 10 + byteAt(place) - '0';
-                if (value > TOP_NUMBER) {
-                    value = TOP_NUMBER + 1;
+        private static int sumsOfOrder(int kind) {
+            if (kind == PASS) {
+                return 0;
+            }
+            return kind == SWIM ? 1 : 2;
+        }
+
+        private boolean readTimes(Tape tape) {
+            if (!tape.isNumber() || tape.number < 1 || tape.number > MOST_TIMES) {
+                return false;
+            }
+            text.repeat(tape.number);
+            tape.next();
+            return true;
+        }
+
+        private boolean readTest(Tape tape) {
+            if (!readBoth(tape)) {
+                return false;
+            }
+            for (int more = 0; more < MOST_BYTES && tape.takeWord("or"); more++) {
+                int place = text.length;
+                text.emit(Text.OR, 0);
+                if (!readBoth(tape)) {
+                    return false;
                 }
+                text.land(place, Text.OR);
             }
-            return value;
+            return true;
+        }
+
+        private boolean readBoth(Tape tape) {
+            if (!readPlain(tape)) {
+                return false;
+            }
+            for (int more = 0; more < MOST_BYTES && tape.takeWord("and"); more++) {
+                int place = text.length;
+                text.emit(Text.AND, 0);
+                if (!readPlain(tape)) {
+                    return false;
+                }
+                text.land(place, Text.AND);
+            }
+            return true;
+        }
+
+        private boolean readPlain(Tape tape) {
+            boolean turned = false;
+            for (int more = 0; more < MOST_BYTES && tape.takeWord("not"); more++) {
+                turned = !turned;
+            }
+            boolean read = tape.isSign('(') ? readBracketed(tape, '(', ')') : readComparison(tape);
+            if (read && turned) {
+                text.emit(Text.NOT, 0);
+            }
+            return read;
+        }
+
+        private boolean readBracketed(Tape tape, char open, char close) {
+            if (brackets >= MOST_BRACKETS || !tape.takeSign(open)) {
+                return false;
+            }
+            brackets++;
+            boolean read = open == '(' ? readTest(tape) : readSum(tape);
+            brackets--;
+            return read && tape.takeSign(close);
+        }
+
+        private boolean readComparison(Tape tape) {
+            if (!readSum(tape)) {
+                return false;
+            }
+            int what = Text.EQUAL;
+            if (tape.isSign('<')) {
+                what = Text.BELOW;
+            } else if (tape.isSign('>')) {
+                what = Text.ABOVE;
+            } else if (!tape.isSign('=')) {
+                return false;
+            }
+            tape.next();
+            if (!readSum(tape)) {
+                return false;
+            }
+            text.emit(what, 0);
+            return true;
+        }
+
+        private boolean readSum(Tape tape) {
+            if (!readTerm(tape)) {
+                return false;
+            }
+            for (int more = 0; more < MOST_BYTES && (tape.isSign('+') || tape.isSign('-')); more++) {
+                int what = tape.isSign('+') ? Text.ADD : Text.LESSEN;
+                tape.next();
+                if (!readTerm(tape)) {
+                    return false;
+                }
+                text.emit(what, 0);
+            }
+            return true;
+        }
+
+        private boolean readTerm(Tape tape) {
+            if (!readPart(tape)) {
+                return false;
+            }
+            for (int more = 0; more < MOST_BYTES; more++) {
+                int what = Text.REST;
+                if (tape.isSign('*')) {
+                    what = Text.MULTIPLY;
+                } else if (tape.isSign('/')) {
+                    what = Text.DIVIDE;
+                } else if (!tape.isSign('%')) {
+                    return true;
+                }
+                tape.next();
+                if (!readPart(tape)) {
+                    return false;
+                }
+                text.emit(what, 0);
+            }
+            return true;
+        }
+
+        private boolean readPart(Tape tape) {
+            if (tape.isSign('[')) {
+                return readBracketed(tape, '[', ']');
+            }
+            if (parts >= MOST_PARTS) {
+                return false;
+            }
+            parts++;
+            if (tape.isNumber()) {
+                text.emit(Text.NUMBER, tape.number);
+                tape.next();
+                return true;
+            }
+            if (ofOrders && tape.takeWord("mud")) {
+                return readWhich(tape, ORDER_MUD);
+            }
+            if (ofOrders && tape.takeWord("soon")) {
+                text.asksSoon = true;
+                return readWhich(tape, ORDER_SOON);
+            }
+            int word = ofOrders ? orderWord(tape) : lawWord(tape);
+            if (word == NONE) {
+                return false;
+            }
+            text.emit(Text.WORD, word);
+            tape.next();
+            return true;
+        }
+
+        private boolean readWhich(Tape tape, int words) {
+            if (!tape.isNumber() || tape.number >= MOST_SPRINGS) {
+                return false;
+            }
+            text.emit(Text.WORD, words + tape.number);
+            tape.next();
+            return true;
+        }
+
+        /** The place of the word at hand among those that Parish.tellChannel() tells. */
+        private static int lawWord(Tape tape) {
+            if (tape.isWord("from")) {
+                return 0;
+            }
+            if (tape.isWord("to")) {
+                return 1;
+            }
+            if (tape.isWord("far")) {
+                return 2;
+            }
+            if (tape.isWord("fall")) {
+                return 3;
+            }
+            if (tape.isWord("mud")) {
+                return 4;
+            }
+            if (tape.isWord("day")) {
+                return 5;
+            }
+            return tape.isWord("mood") ? 6 : NONE;
+        }
+
+        /** The place of the word at hand among those that EelClerk.tellOrderWords() tells. */
+        private static int orderWord(Tape tape) {
+            if (tape.isWord("day")) {
+                return 0;
+            }
+            if (tape.isWord("done")) {
+                return 1;
+            }
+            if (tape.isWord("latest")) {
+                return 2;
+            }
+            if (tape.isWord("at")) {
+                return 3;
+            }
+            return tape.isWord("shut") ? 4 : NONE;
         }
     }
 
     /** Asks a law of a channel, of a spring. */
     private static final class Asker {
         final long[] stack = new long[MOST_PARTS];
-        private final int[] words = new int[7];
+        private final int[] words = new int[LAW_WORDS];
 
         int takes(Parish parish, Text law, int one, int other) {
             parish.tellChannel(one, other, words);
@@ -1580,8 +1566,8 @@ public final class EelClerk {
                 return BROKEN;
             }
             for (int clause = law.clauses - 1; clause >= 0; clause--) {
-                if (law.kindOf(clause) == kind && law.value(law.testOf(clause), words, stack) == 1) {
-                    long value = law.value(law.firstOf(clause), words, stack);
+                if (law.kindOf(clause) == kind && law.value(clause, Text.TEST, words, stack) == 1) {
+                    long value = law.value(clause, Text.FIRST, words, stack);
                     if (value != BROKEN) {
                         return value;
                     }
@@ -1605,23 +1591,36 @@ public final class EelClerk {
     private static final class Paper {
         int springs = 0;
         /** How long a word takes through a channel that is not barred, shut or not; else NEVER. */
-        final int[][] through = new int[MOST_SPRINGS][MOST_SPRINGS];
+        private final int[] through = new int[MOST_PAIRS];
         /** The same, but for the shut ones: NEVER. */
-        private final int[][] step = new int[MOST_SPRINGS][MOST_SPRINGS];
-        final int[][] soon = new int[MOST_SPRINGS][MOST_SPRINGS];
+        private final int[] step = new int[MOST_PAIRS];
+        private final int[] soon = new int[MOST_PAIRS];
         /** What a channel weighs that is not shut; else 0. */
-        private final int[][] cut = new int[MOST_SPRINGS][MOST_SPRINGS];
+        private final int[] cut = new int[MOST_PAIRS];
+
+        private static int pair(int one, int other) {
+            return one * MOST_SPRINGS + other;
+        }
+
+        private boolean has(int spring) {
+            return spring >= 0 && spring < springs;
+        }
+
+        private void take(Parish parish) {
+            springs = parish.springs < MOST_SPRINGS ? parish.springs : MOST_SPRINGS;
+        }
 
         void fill(Parish parish, Text law, Asker asker) {
-            springs = parish.springs < MOST_SPRINGS ? parish.springs : MOST_SPRINGS;
+            take(parish);
             for (int one = 0; one < springs; one++) {
                 for (int other = 0; other < springs; other++) {
-                    int pair = parish.pairOf(one, other);
-                    boolean barred = parish.farOf(pair) == 0 || asker.bars(parish, law, one, other);
-                    int days = barred ? NEVER : asker.takes(parish, law, one, other);
-                    through[one][other] = days;
-                    step[one][other] = parish.isShut(pair) ? NEVER : days;
-                    soon[one][other] = one == other ? 0 : step[one][other];
+                    int channel = parish.pairOf(one, other);
+                    boolean none = parish.farOf(channel) == 0 || asker.bars(parish, law, one, other);
+                    int days = none ? NEVER : asker.takes(parish, law, one, other);
+                    int place = pair(one, other);
+                    through[place] = days;
+                    step[place] = parish.isShut(channel) ? NEVER : days;
+                    soon[place] = one == other ? 0 : step[place];
                 }
             }
             for (int by = 0; by < springs; by++) {
@@ -1632,20 +1631,25 @@ public final class EelClerk {
         private void goBy(int by) {
             for (int one = 0; one < springs; one++) {
                 for (int other = 0; other < springs; other++) {
-                    int days = soon[one][by] + soon[by][other];
-                    if (days < soon[one][other]) {
-                        soon[one][other] = days;
+                    int days = soon[pair(one, by)] + soon[pair(by, other)];
+                    if (days < soon[pair(one, other)]) {
+                        soon[pair(one, other)] = days;
                     }
                 }
             }
         }
 
-        private boolean has(int spring) {
-            return spring >= 0 && spring < springs;
+        int daysThrough(int one, int other) {
+            return has(one) && has(other) ? through[pair(one, other)] : NEVER;
+        }
+
+        boolean isShut(int one, int other) {
+            return has(one) && has(other) && through[pair(one, other)] != step[pair(one, other)];
         }
 
         int soonest(int from, int to) {
-            return has(from) && has(to) && soon[from][to] < NEVER ? soon[from][to] : NONE;
+            int days = has(from) && has(to) ? soon[pair(from, to)] : NEVER;
+            return days < NEVER ? days : NONE;
         }
 
         int onWay(int from, int to, int i) {
@@ -1665,7 +1669,7 @@ public final class EelClerk {
                 return NONE;
             }
             for (int by = 0; by < springs; by++) {
-                if (step[spring][by] + soon[by][to] == soon[spring][to]) {
+                if (step[pair(spring, by)] + soon[pair(by, to)] == soon[pair(spring, to)]) {
                     return by;
                 }
             }
@@ -1678,17 +1682,19 @@ public final class EelClerk {
             }
             int set = 0;
             for (int to = 0; to < springs; to++) {
-                if (soon[from][to] >= NEVER) {
+                if (soonest(from, to) == NONE) {
                     set |= 1 << to;
                 }
             }
             return set;
         }
 
+        /** On which day it has come to all; NEVER: it does not. */
         int lastDay(int from) {
             int last = 0;
             for (int to = 0; has(from) && to < springs; to++) {
-                last = soon[from][to] > last ? soon[from][to] : last;
+                int days = soon[pair(from, to)];
+                last = days > last ? days : last;
             }
             return last;
         }
@@ -1710,22 +1716,23 @@ public final class EelClerk {
             int best = NONE;
             int fewest = NEVER;
             for (int from = 0; has(to) && from < springs; from++) {
-                if ((set >> from & 1) == 1 && soon[from][to] < fewest) {
+                int days = soon[pair(from, to)];
+                if ((set >> from & 1) == 1 && days < fewest) {
                     best = from;
-                    fewest = soon[from][to];
+                    fewest = days;
                 }
             }
             return best;
         }
 
         void fillCuts(Parish parish, Asker asker) {
-            springs = parish.springs < MOST_SPRINGS ? parish.springs : MOST_SPRINGS;
+            take(parish);
             Text law = parish.lawInForce();
             for (int one = 0; one < springs; one++) {
                 for (int other = 0; other < springs; other++) {
-                    int pair = parish.pairOf(one, other);
-                    boolean none = parish.farOf(pair) == 0 || parish.isShut(pair);
-                    cut[one][other] = none ? 0 : asker.weighs(parish, law, one, other);
+                    int channel = parish.pairOf(one, other);
+                    boolean none = parish.farOf(channel) == 0 || parish.isShut(channel);
+                    cut[pair(one, other)] = none ? 0 : asker.weighs(parish, law, one, other);
                 }
             }
         }
@@ -1733,8 +1740,10 @@ public final class EelClerk {
         int cutOf(int set) {
             int together = 0;
             for (int one = 0; one < springs; one++) {
-                for (int other = 0; (set >> one & 1) == 1 && other < springs; other++) {
-                    together += (set >> other & 1) == 0 ? cut[one][other] : 0;
+                for (int other = 0; other < springs; other++) {
+                    if ((set >> one & 1) == 1 && (set >> other & 1) == 0) {
+                        together += cut[pair(one, other)];
+                    }
                 }
             }
             return together;
@@ -1764,8 +1773,8 @@ public final class EelClerk {
         private int count = 0;
         /** How soon it comes to a stop from where the round begins. */
         private final int[] out = new int[MOST_STOPS];
-        private final int[][] left = new int[1 << MOST_STOPS][MOST_STOPS];
-        private final int[][] soon = new int[MOST_STOPS][MOST_STOPS];
+        private final int[] soon = new int[MOST_STOPS * MOST_STOPS];
+        private final int[] left = new int[MOST_STOPS << MOST_STOPS];
 
         void plan(Paper paper, int home, int set) {
             count = 0;
@@ -1778,14 +1787,14 @@ public final class EelClerk {
             int all = (1 << count) - 1;
             for (int stop = 0; stop < count; stop++) {
                 out[stop] = daysOf(paper, home, stops[stop]);
-                left[all][stop] = daysOf(paper, stops[stop], home);
+                left[all * MOST_STOPS + stop] = daysOf(paper, stops[stop], home);
                 for (int other = 0; other < count; other++) {
-                    soon[stop][other] = daysOf(paper, stops[stop], stops[other]);
+                    soon[stop * MOST_STOPS + other] = daysOf(paper, stops[stop], stops[other]);
                 }
             }
             for (int been = all - 1; been > 0; been--) {
                 for (int stop = 0; stop < count; stop++) {
-                    left[been][stop] = fewestBehind(been, stop);
+                    left[been * MOST_STOPS + stop] = fewestBehind(been, stop);
                 }
             }
         }
@@ -1795,11 +1804,17 @@ public final class EelClerk {
             return days == NONE ? NEVER : days;
         }
 
+        /** All that is still to be gone, if a stop is the next one behind another one (NONE: behind home). */
+        private int daysBy(int been, int stop, int by) {
+            int days = stop == NONE ? out[by] : soon[stop * MOST_STOPS + by];
+            return days + left[(been | 1 << by) * MOST_STOPS + by];
+        }
+
         private int fewestBehind(int been, int stop) {
             int fewest = NEVER;
             for (int by = 0; by < count; by++) {
                 if ((been >> by & 1) == 0) {
-                    int days = soon[stop][by] + left[been | 1 << by][by];
+                    int days = daysBy(been, stop, by);
                     fewest = days < fewest ? days : fewest;
                 }
             }
@@ -1810,41 +1825,32 @@ public final class EelClerk {
             if (count == 0) {
                 return 0;
             }
-            int fewest = NEVER;
-            for (int by = 0; by < count; by++) {
-                int days = out[by] + left[1 << by][by];
-                fewest = days < fewest ? days : fewest;
-            }
+            int fewest = fewestBehind(0, NONE);
             return fewest < NEVER ? fewest : NONE;
         }
 
         /** The i-th stop: each time the lowest by which nothing is lost. */
         int stop(int i) {
-            int due = days();
-            if (i < 0 || i >= count || due == NONE) {
+            if (i < 0 || i >= count || days() == NONE) {
                 return NONE;
             }
             int been = 0;
             int stop = NONE;
             for (int place = 0; place <= i; place++) {
-                int by = nextStop(been, stop, due);
-                if (by == NONE) {
+                stop = nextStop(been, stop);
+                if (stop == NONE) {
                     return NONE;
                 }
-                been |= 1 << by;
-                stop = by;
-                due = left[been][by];
+                been |= 1 << stop;
             }
             return stop == NONE ? NONE : stops[stop];
         }
 
-        private int nextStop(int been, int stop, int due) {
+        private int nextStop(int been, int stop) {
+            int due = fewestBehind(been, stop);
             for (int by = 0; by < count; by++) {
-                if ((been >> by & 1) == 0) {
-                    int days = stop == NONE ? out[by] : soon[stop][by];
-                    if (days + left[been | 1 << by][by] == due) {
-                        return by;
-                    }
+                if ((been >> by & 1) == 0 && daysBy(been, stop, by) == due) {
+                    return by;
                 }
             }
             return NONE;
@@ -1853,79 +1859,71 @@ public final class EelClerk {
 
     /** The way to the sea, by how many shut channels may still be gone through. */
     private static final class Outlet {
-        private final int[][] left = new int[MOST_GATES + 1][MOST_SPRINGS];
-        private Paper paper;
-        private Parish parish;
+        private final int[] left = new int[(MOST_GATES + 1) * MOST_SPRINGS];
         private int gates = 0;
 
-        void fill(Paper itsPaper, Parish itsParish, int k) {
-            paper = itsPaper;
-            parish = itsParish;
+        void fill(Paper paper, int k) {
             gates = k < MOST_GATES ? k : MOST_GATES;
+            Arrays.fill(left, NEVER);
             for (int gate = 0; gate <= gates; gate++) {
-                Arrays.fill(left[gate], NEVER);
-                left[gate][0] = 0;
+                left[gate * MOST_SPRINGS] = 0;
                 for (int time = 0; time < MOST_SPRINGS; time++) {
-                    shorten(gate);
+                    shorten(paper, gate);
                 }
             }
         }
 
-        private void shorten(int gate) {
+        private void shorten(Paper paper, int gate) {
             for (int spring = 0; spring < MOST_SPRINGS; spring++) {
                 for (int by = 0; by < MOST_SPRINGS; by++) {
-                    int days = daysBy(spring, by, gate);
-                    if (days < left[gate][spring]) {
-                        left[gate][spring] = days;
+                    int days = daysBy(paper, spring, by, gate);
+                    if (days < left[gate * MOST_SPRINGS + spring]) {
+                        left[gate * MOST_SPRINGS + spring] = days;
                     }
                 }
             }
         }
 
-        private boolean isShut(int one, int other) {
-            return parish.isShut(parish.pairOf(one, other));
+        private int leftFrom(int spring, int gate) {
+            int place = gate * MOST_SPRINGS + spring;
+            return gate >= 0 && place >= 0 && place < left.length ? left[place] : NEVER;
         }
 
         /** How many days are left from a spring, if it is gone by another one next. */
-        private int daysBy(int spring, int by, int gate) {
-            int behind = isShut(spring, by) ? gate - 1 : gate;
-            if (behind < 0 || !parish.has(spring) || !parish.has(by)) {
-                return NEVER;
-            }
-            return paper.through[spring][by] + left[behind][by];
+        private int daysBy(Paper paper, int spring, int by, int gate) {
+            int behind = paper.isShut(spring, by) ? gate - 1 : gate;
+            return paper.daysThrough(spring, by) + leftFrom(by, behind);
         }
 
         int days(int from) {
-            if (from < 0 || from >= MOST_SPRINGS || left[gates][from] >= NEVER) {
-                return NONE;
-            }
-            return left[gates][from];
+            int days = leftFrom(from, gates);
+            return days < NEVER ? days : NONE;
         }
 
-        int onWay(int from, int i) {
+        int onWay(Paper paper, int from, int i) {
             if (i < 0 || i >= MOST_SPRINGS || days(from) == NONE) {
                 return NONE;
             }
             int spring = from;
             int gate = gates;
             for (int place = 0; place < i; place++) {
-                int by = nextOnWay(spring, gate);
+                int by = nextOnWay(paper, spring, gate);
                 if (by == NONE) {
                     return NONE;
                 }
-                gate = isShut(spring, by) ? gate - 1 : gate;
+                gate = paper.isShut(spring, by) ? gate - 1 : gate;
                 spring = by;
             }
             return spring;
         }
 
         /** The lowest by which nothing is lost; NONE behind the sea. */
-        private int nextOnWay(int spring, int gate) {
-            if (spring == 0 || gate < 0) {
+        private int nextOnWay(Paper paper, int spring, int gate) {
+            if (spring == 0) {
                 return NONE;
             }
             for (int by = 0; by < MOST_SPRINGS; by++) {
-                if (daysBy(spring, by, gate) == left[gate][spring]) {
+                if (daysBy(paper, spring, by, gate) == leftFrom(spring, gate)) {
                     return by;
                 }
             }
