@@ -108,7 +108,7 @@ public final class EelClerk {
             case 1:
                 return now.mudOf(spring);
             case 2:
-                return asker.settles(now, spring);
+                return asker.told(now, now.lawInForce(), SETTLES, spring, NONE);
             default:
                 return NONE;
         }
@@ -128,14 +128,7 @@ public final class EelClerk {
         if (now.farOf(pair) == 0) {
             return NONE;
         }
-        Text law = now.lawInForce();
-        if (what == 2) {
-            return asker.takes(now, law, one, other);
-        }
-        if (what == 3) {
-            return asker.weighs(now, law, one, other);
-        }
-        return asker.bars(now, law, one, other) ? 1 : 0;
+        return asker.told(now, now.lawInForce(), kindTold(what), one, other);
     }
 
     public int terms(int what, int value) {
@@ -339,7 +332,8 @@ public final class EelClerk {
     }
 
     public int canBe() {
-        fillRumour();
+        fillPaper();
+        rumour.fill(paper, now);
         return rumour.origins();
     }
 
@@ -347,7 +341,8 @@ public final class EelClerk {
         if (now.heard == 0 || !now.has(spring)) {
             return NONE;
         }
-        fillRumour();
+        fillPaper();
+        rumour.fill(paper, now);
         return rumour.startAt(spring);
     }
 
@@ -355,7 +350,8 @@ public final class EelClerk {
         if (what != 0 && what != 1) {
             return NONE;
         }
-        fillRumour();
+        fillPaper();
+        rumour.fill(paper, now);
         int spring = rumour.bestEar(paper);
         return what == 0 || spring == NONE ? spring : rumour.leftAt(paper, spring);
     }
@@ -506,6 +502,14 @@ public final class EelClerk {
         return place >= 0 && place < refusals.length ? refusals[place] : 0;
     }
 
+    /** What between() asks a law of by its number. */
+    private static int kindTold(int what) {
+        if (what == 2) {
+            return TAKES;
+        }
+        return what == 3 ? WEIGHS : BARS;
+    }
+
     private static int topOfTerm(int what) {
         if (what == 0) {
             return LAST_DAY;
@@ -598,11 +602,6 @@ public final class EelClerk {
 
     private void fillPaper() {
         paper.fill(now, now.lawInForce(), asker);
-    }
-
-    private void fillRumour() {
-        fillPaper();
-        rumour.fill(paper, now);
     }
 
     /** One more string: from the top down, so that each part is still that of the string ahead. */
@@ -702,7 +701,7 @@ public final class EelClerk {
         }
 
         int mudOf(int spring) {
-            return has(spring) ? (int) (mud >>> 4 * spring) & 15 : NONE;
+            return spring >= 0 && spring < springs ? (int) (mud >>> 4 * spring) & 15 : NONE;
         }
 
         private void setMud(int spring, int value) {
@@ -831,10 +830,10 @@ public final class EelClerk {
             }
             Text law = lawInForce();
             int pair = pairOf(at, spring);
-            if (farOf(pair) == 0 || isShut(pair) || asker.bars(this, law, at, spring)) {
+            if (farOf(pair) == 0 || isShut(pair) || asker.told(this, law, BARS, at, spring) == 1) {
                 return CANNOT_BE;
             }
-            int days = asker.takes(this, law, at, spring);
+            int days = asker.told(this, law, TAKES, at, spring);
             at = spring;
             return days;
         }
@@ -874,10 +873,11 @@ public final class EelClerk {
             if (day >= LAST_DAY) {
                 return CANNOT_BE;
             }
+            Text law = lawInForce();
             long settled = 0;
             int others = 0;
             for (int spring = 0; spring < springs; spring++) {
-                int value = asker.settles(this, spring);
+                int value = asker.told(this, law, SETTLES, spring, NONE);
                 settled |= (long) value << 4 * spring;
                 if (value != mudOf(spring)) {
                     others++;
@@ -1540,46 +1540,41 @@ public final class EelClerk {
         final long[] stack = new long[MOST_PARTS];
         private final int[] words = new int[LAW_WORDS];
 
-        int takes(Parish parish, Text law, int one, int other) {
-            parish.tellChannel(one, other, words);
-            return nearest(told(law, TAKES), 1, 99, words[2]);
-        }
-
-        int weighs(Parish parish, Text law, int one, int other) {
-            parish.tellChannel(one, other, words);
-            return nearest(told(law, WEIGHS), 0, 99, 1);
-        }
-
-        boolean bars(Parish parish, Text law, int one, int other) {
-            parish.tellChannel(one, other, words);
-            return told(law, BARS) != BROKEN;
-        }
-
-        int settles(Parish parish, int spring) {
-            parish.tellSpring(spring, words);
-            return nearest(told(parish.lawInForce(), SETTLES), 0, TOP_MUD, words[4]);
-        }
-
-        /** What the last clause of a kind tells that holds; BROKEN: none does. */
-        private long told(Text law, int kind) {
-            if (law == null) {
-                return BROKEN;
+        /** What the last clause of a kind tells that holds (of a spring: the one); 1, 0 of whether it bars. */
+        int told(Parish parish, Text law, int kind, int one, int other) {
+            if (kind == SETTLES) {
+                parish.tellSpring(one, words);
+            } else {
+                parish.tellChannel(one, other, words);
             }
-            for (int clause = law.clauses - 1; clause >= 0; clause--) {
+            int clauses = law == null ? 0 : law.clauses;
+            for (int clause = clauses - 1; clause >= 0 && law != null; clause--) {
                 if (law.kindOf(clause) == kind && law.value(clause, Text.TEST, words, stack) == 1) {
                     long value = law.value(clause, Text.FIRST, words, stack);
                     if (value != BROKEN) {
-                        return value;
+                        return nearest(kind, value);
                     }
                 }
             }
-            return BROKEN;
+            return without(kind);
         }
 
-        private static int nearest(long value, int low, int high, int without) {
-            if (value == BROKEN) {
-                return without;
+        private int without(int kind) {
+            switch (kind) {
+                case TAKES:
+                    return words[2];
+                case WEIGHS:
+                    return 1;
+                case SETTLES:
+                    return words[4];
+                default:
+                    return 0;
             }
+        }
+
+        private static int nearest(int kind, long value) {
+            int low = kind == TAKES ? 1 : 0;
+            int high = kind == SETTLES ? TOP_MUD : 99;
             if (value < low) {
                 return low;
             }
@@ -1615,8 +1610,8 @@ public final class EelClerk {
             for (int one = 0; one < springs; one++) {
                 for (int other = 0; other < springs; other++) {
                     int channel = parish.pairOf(one, other);
-                    boolean none = parish.farOf(channel) == 0 || asker.bars(parish, law, one, other);
-                    int days = none ? NEVER : asker.takes(parish, law, one, other);
+                    boolean none = parish.farOf(channel) == 0 || asker.told(parish, law, BARS, one, other) == 1;
+                    int days = none ? NEVER : asker.told(parish, law, TAKES, one, other);
                     int place = pair(one, other);
                     through[place] = days;
                     step[place] = parish.isShut(channel) ? NEVER : days;
@@ -1732,7 +1727,7 @@ public final class EelClerk {
                 for (int other = 0; other < springs; other++) {
                     int channel = parish.pairOf(one, other);
                     boolean none = parish.farOf(channel) == 0 || parish.isShut(channel);
-                    cut[pair(one, other)] = none ? 0 : asker.weighs(parish, law, one, other);
+                    cut[pair(one, other)] = none ? 0 : asker.told(parish, law, WEIGHS, one, other);
                 }
             }
         }
