@@ -156,7 +156,8 @@ public final class PromisesTest {
         due("4 broken does not hold", x.of(1, 2), 1);
         due("4 the last", x.of(2, 2), 5);
         EelClerk y = parish();
-        inForce(y, "settles 7 + to + far + fall if to = 0-1 and far = 0-1 and fall = 0; bars if from = 2");
+        inForce(y, "settles 7 + to + far + fall if to = 0-1 and far = 0-1 and fall = 0; takes 5 + fall");
+        due("4 a channel ahead", y.between(2, 1, 2), 7);
         due("4 to, far -1, fall 0", y.of(1, 2), 5);
         inForce(y, "settles day % 10 + mood");
         y.terms(0, 123);
@@ -337,8 +338,34 @@ public final class PromisesTest {
         due("12 a broken sum", Checks.orders(x, "pass; swim 1/0"), -3);
         due("12 a broken sum behind", Checks.orders(x, "stir 0 to 1000*1000*1000+1"), -3);
         due("12 asked each time", Checks.orders(x, "pass times 20 if done < 7"), 7);
+        rolledBack();
         due("12 one alone", Checks.orders(x, "gate 1 to 1"), -3);
         due("12 far beyond", Checks.orders(x, "swim 1000*1000*1000"), -3);
+    }
+
+    /** What can be undone is as it was ahead of orders that ran beyond the sixteen that are kept. */
+    private static void rolledBack() {
+        EelClerk x = parish();
+        x.image(0);
+        for (int i = 0; i < 5; i++) {
+            x.stir(0, 2 + i);
+            x.pass();
+            x.gate(0, 1);
+            x.swim(i % 2 == 0 ? 2 : 0);
+        }
+        due("12 beyond sixteen", Checks.orders(x, "stir 1 to 9; pass times 20; gate 2 to 3 times 3; swim 3"), -3);
+        due("12 at", x.count(1), 2);
+        for (int i = 4; i > 0; i--) {
+            due("12 undo swim", x.undo(), 0);
+            due("12 at", x.count(1), i % 2 == 0 ? 0 : 2);
+            due("12 undo gate", x.undo(), 1);
+            due("12 shut", x.between(0, 1, 1), i % 2);
+            due("12 undo pass", x.undo(), 3);
+            due("12 day", x.count(14), i);
+            due("12 undo stir", x.undo(), 2);
+            due("12 mud", x.of(0, 1) * 10 + x.of(1, 1), (1 + i) * 10 + 2);
+        }
+        due("12 no more", x.undo(), -3);
     }
 
     private static void fault() {
@@ -625,6 +652,13 @@ public final class PromisesTest {
         inForce(x, "bars if to = 2");
         due("25 not back", x.round(1, -1), -1);
         due("25 no springs", new EelClerk().round(0, -1), -1);
+        EelClerk y = inRow(1, 1, 1, 1, 1, 1, 1, 1);
+        y.swim(1);
+        due("25 all nine", y.round(511, -1), 16);
+        due("25 all nine", y.round(511, 0) * 10 + y.round(511, 7), 8);
+        due("25 no ninth other", y.round(511, 8), -1);
+        due("25 a tenth", y.round(512, -1), -1);
+        due("25 the far end", y.round(256, -1) * 10 + y.round(256, 0), 148);
     }
 
     private static void bound() {
@@ -869,6 +903,16 @@ public final class PromisesTest {
         due("36 at 999 nothing is drawn", x.years(0, 60), 0);
         due("36 at 999 nothing is drawn", x.drawn(1, 0), 2);
         drawnBySeeds();
+        EelClerk y = inRow(50);
+        inForce(y, "takes 1; bars if from = 1");
+        // it swims to the other spring or not at all, and can't come back
+        int swam = 0;
+        for (int seed = 0; seed < 40; seed++) {
+            int days = y.years(seed, 1);
+            due("36 a day of swimming", days, y.drawn(1, 1));
+            swam += days;
+        }
+        due("36 some swim", swam > 0 ? 1 : 0, 1);
     }
 
     /** By hand, as the document tells the draws. */
@@ -970,9 +1014,14 @@ public final class PromisesTest {
         due("39 mud", x.of(3, 1), 4);
         due("39 the law", x.between(0, 1, 2), 7);
         due("39 heard", x.since(2), 7);
+        x.forget();
+        x.heard(0, 3);
+        x.back(0);
+        due("39 heard, where and when", x.since(2), 7);
         due("39 fault is not kept", x.fault(), 0);
         due("39 bubbles are not kept", x.bubbles(), 1);
         due("39 stopped is not kept", x.stopped(), 0);
+        due("39 nothing to undo", x.undo(), -3);
         due("39 refusals are not kept", x.count(12), 1);
         due("39 the tape is not kept", x.count(7), 20);
         spoil(x);
