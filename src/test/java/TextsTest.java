@@ -42,6 +42,13 @@ public final class TextsTest {
         law("takes at", 6);
         law("takes x", 6);
         law("takes Far", 6);
+        law("takes dayz", 6);
+        law("takes daya", 6);
+        law("takes day`", 9);
+        law("takes day{", 9);
+        law("takes 10/", 9);
+        law("takes 10:", 8);
+        law("takes 109", -1);
         law("takes -1", 6);
         law("takes [1", 8);
         law("takes [1)", 8);
