@@ -14,17 +14,11 @@ public final class TextsTest {
     }
 
     private static void law(String text, int fault) {
-        EelClerk x = new EelClerk();
-        int told = Checks.law(x, text);
-        C.due("law " + text, told, fault == -1 ? 0 : -6);
-        C.due("fault of law " + text, x.fault(), fault);
+        C.due("fault of law " + text, Readings.lawFault(text), fault);
     }
 
     private static void orders(String text, int fault) {
-        EelClerk x = new EelClerk();
-        int told = Checks.orders(x, text);
-        C.due("orders " + text, told == -6 ? -6 : 0, fault == -1 ? 0 : -6);
-        C.due("fault of orders " + text, x.fault(), fault);
+        C.due("fault of orders " + text, Readings.ordersFault(text), fault);
     }
 
     private static void lawFaults() {
@@ -152,34 +146,12 @@ public final class TextsTest {
         law(many("bars if ", "not ", 97) + "1<2", -1);
     }
 
-    private static EelClerk two() {
-        EelClerk x = new EelClerk();
-        x.spring(7, 3);
-        x.spring(2, 5);
-        x.channel(0, 1, 6);
-        x.terms(0, 40);
-        x.terms(2, 8);
-        return x;
-    }
-
-    /** What a sum of a law tells for the channel from 0 to 1; NONE: it is broken. */
     private static int sum(String sum) {
-        EelClerk x = two();
-        Checks.law(x, "weighs 99; weighs " + sum);
-        x.force(0);
-        return x.between(0, 1, 3) == 99 ? EelClerk.NONE : x.between(0, 1, 3);
+        return Readings.sum(sum);
     }
 
     private static int test(String test) {
-        EelClerk x = two();
-        Checks.law(x, "bars if " + test);
-        x.force(0);
-        int bars = x.between(0, 1, 4);
-        EelClerk y = two();
-        Checks.law(y, "bars if not (" + test + ")");
-        y.force(0);
-        // broken: neither that nor its contrary is so
-        return bars == 0 && y.between(0, 1, 4) == 0 ? EelClerk.NONE : bars;
+        return Readings.test(test);
     }
 
     private static void broken() {
