@@ -4,6 +4,7 @@ import java.io.IOException;
 public final class CallsEdgesTest {
     private static final int MIN = Integer.MIN_VALUE;
     private static final int MAX = Integer.MAX_VALUE;
+    private static final String EDGES = "NONE|-[1-6]|\\(|\\.\\.|empty|latest";
     private static Edges e;
 
     public static void main(String[] args) throws IOException {
@@ -53,7 +54,7 @@ public final class CallsEdgesTest {
         statusRefused();
         statusLeft();
         for (int promise = 1; promise <= 41; promise++) {
-            e.allTold("" + promise, "NONE|-[1-6]|\\(|\\.\\.|empty|latest");
+            e.allTold("" + promise, EDGES);
         }
         e.close("CallsEdgesTest");
     }
@@ -62,22 +63,15 @@ public final class CallsEdgesTest {
         e.due(call, got, want);
     }
 
-    /** All that a refused call must leave as it was. */
+    /** What a refused call must leave as it was: by few calls, as an object is used for 512 at most. */
     private static long standing(EelClerk x) {
         long all = 0;
-        for (int what = 0; what <= 7; what++) {
-            all = all * 31 + x.count(what);
-        }
-        for (int what = 13; what <= 16; what++) {
-            all = all * 31 + x.count(what);
-        }
-        for (int spring = 0; spring < 9; spring++) {
-            all = all * 31 + x.of(spring, 0) * 11 + x.of(spring, 1);
-            for (int other = 0; other < spring; other++) {
-                all = all * 31 + x.between(spring, other, 0) * 2 + x.between(spring, other, 1);
+        for (int what = 0; what <= 16; what++) {
+            if (what < 8 || what > 12) {
+                all = all * 31 + x.count(what);
             }
         }
-        return all;
+        return ((all * 31 + x.of(0, 1)) * 31 + x.of(3, 1)) * 5200 + x.between(0, 1, 0) * 100 + x.between(0, 1, 1);
     }
 
     /** Refused by its number, told by status() too, and all is as it was. */
@@ -151,16 +145,17 @@ public final class CallsEdgesTest {
         refused(x, "to -1", y -> y.channel(0, -1, 5), -2);
         refused(x, "from MIN to MAX", y -> y.channel(MIN, MAX, 0), -2);
         refused(new EelClerk(), "without springs", y -> y.channel(0, 1, 1), -2);
-        x.gate(0, 1);
-        due("a shut one, as far as it was", x.channel(0, 1, 4), 4);
-        due("not shut then", x.between(0, 1, 1), 0);
-        x.gate(0, 1);
-        refused(x, "a shut one, far 51", y -> y.channel(0, 1, 51), -1);
-        due("shut still", x.between(0, 1, 1), 1);
-        x.channel(0, 1, 0);
-        due("none is not shut", x.count(3) * 10 + x.between(0, 1, 1), 0);
-        x.channel(0, 1, 2);
-        due("not shut when it is there again", x.between(0, 1, 1), 0);
+        EelClerk z = Parishes.inRow(4, 3);
+        z.gate(0, 1);
+        due("a shut one, as far as it was", z.channel(0, 1, 4), 4);
+        due("not shut then", z.between(0, 1, 1), 0);
+        z.gate(0, 1);
+        refused(z, "a shut one, far 51", y -> y.channel(0, 1, 51), -1);
+        due("shut still", z.between(0, 1, 1), 1);
+        z.channel(0, 1, 0);
+        due("none is not shut", z.count(3) * 10 + z.between(0, 1, 1), 0);
+        z.channel(0, 1, 2);
+        due("not shut when it is there again", z.between(0, 1, 1), 0);
     }
 
     private static void of() {
@@ -210,6 +205,12 @@ public final class CallsEdgesTest {
             due("from none such, what " + what, x.between(4, 0, what), -1);
             due("from -1, what " + what, x.between(-1, 0, what), -1);
             due("from MIN to MAX, what " + what, x.between(MIN, MAX, what), -1);
+            for (int spring = 0; spring < 4; spring++) {
+                due(spring + " to -1, what " + what, x.between(spring, -1, what), -1);
+                due("-2 to " + spring + ", what " + what, x.between(-2, spring, what), -1);
+                due(spring + " to 4, what " + what, x.between(spring, 4, what), -1);
+                due("8 to " + spring + ", what " + what, x.between(8, spring, what), -1);
+            }
         }
         due("what 5", x.between(0, 1, 5), -1);
         due("what -1", x.between(0, 1, -1), -1);
@@ -381,33 +382,28 @@ public final class CallsEdgesTest {
         due("the tape is empty then", x.count(7), 0);
         due("as many as can be", Checks.orders(x, "pass times 20" + ";pass times 20".repeat(11)), 240);
         due("the tape is empty then", x.count(7), 0);
-        x.image(0);
-        refusedOrders(x, "pass; swim 0; pass", -3);
-        refusedOrders(x, "pass times 20; swim 4", -3);
-        refusedOrders(x, "pass; gate 0 to 0", -3);
-        refusedOrders(x, "pass; gate 0 to 4", -3);
-        refusedOrders(x, "pass; gate 0 to 3", -3);
-        refusedOrders(x, "pass; stir 0 to 10", -3);
-        refusedOrders(x, "pass; stir 4 to 1", -3);
-        refusedOrders(x, "pass; stir 0 to 1", -3);
-        refusedOrders(x, "", -6);
-        due("fault()", x.fault(), 0);
-        refusedOrders(x, "  ", -6);
-        due("fault()", x.fault(), 2);
-        refusedOrders(x, " ".repeat(400), -6);
-        due("fault()", x.fault(), 400);
-        refusedOrders(x, "pass;", -6);
-        x.terms(0, 999);
-        refusedOrders(x, "swim 1; pass", -3);
-        due("refused by -3", x.count(10), 9);
-        due("refused by -6", x.count(12), 4);
+        for (String last : new String[] {"swim 0", "swim 4", "gate 0 to 0", "gate 0 to 4", "gate 0 to 3", "stir 0 to 10",
+            "stir 4 to 1", "stir 3 to 9"}) {
+            refusedOrders("stir 0 to 5; gate 0 to 1; " + last + "; pass", -3, -1);
+        }
+        refusedOrders("pass times 20; swim 4", -3, -1);
+        refusedOrders("", -6, 0);
+        refusedOrders("  ", -6, 2);
+        refusedOrders(" ".repeat(400), -6, 400);
+        refusedOrders("pass;", -6, 5);
+        EelClerk y = Parishes.parish();
+        y.terms(0, 999);
+        refused(y, "at 999", z -> Checks.orders(z, "swim 1; pass"), -3);
+        refused(y, "at 999, none", z -> z.orders(), -6);
+        due("refused by -3", y.count(10), 1);
+        due("refused by -6", y.count(12), 1);
     }
 
-    private static void refusedOrders(EelClerk x, String text, int by) {
-        long was = standing(x);
-        due(text, Checks.orders(x, text), by);
-        due("status() behind " + text, x.status(), by);
-        due("what stands behind " + text, standing(x), was);
+    private static void refusedOrders(String text, int by, int fault) {
+        EelClerk x = Parishes.parish();
+        refused(x, text, y -> Checks.orders(y, text), by);
+        due("fault() of " + text, x.fault(), fault);
+        due("the tape is empty then", x.count(7), 0);
     }
 
     private static void fault() {
@@ -605,6 +601,14 @@ public final class CallsEdgesTest {
         due("shut", x.count(3), 0);
         due("swimming", x.undo(), 0);
         due("where it is", x.count(1), 0);
+        x.gate(0, 2);
+        x.swim(1);
+        x.swim(2);
+        x.gate(1, 2);
+        due("the second gate", x.undo() * 100 + x.between(0, 2, 1) * 10 + x.between(1, 2, 1), 110);
+        due("the second time it swam", x.undo() * 10 + x.count(1), 1);
+        due("the first time it swam", x.undo() * 10 + x.count(1), 0);
+        due("the first gate", x.undo() * 10 + x.count(3), 10);
         e.words(20, "-3 there is none");
         refused(x, "undo()", y -> y.undo(), -3);
         refused(new EelClerk(), "undo() of a new object", y -> y.undo(), -3);

@@ -80,11 +80,20 @@ public final class TextsEdgesTest {
         due("400 bytes", x.count(7), 400);
         due("20 more", x.feed(0, 0, 0, 0, 0), -1);
         due("a law all the same", x.law(), 0);
+        EelClerk y = Parishes.parish();
+        for (int i = 0; i < 8; i++) {
+            due("one long text behind the other", Checks.orders(y, many("pass if 1=1", " and 1=1", 23)), 1);
+            due("and one that does not stand", Checks.orders(y, many("pass if 1=1", " and 1=1", 23) + ";"), -6);
+        }
     }
 
     private static void letters() {
         e.words("II", "TOKENS: longest rows of letters a .. z");
         law("barsz", 0);
+        law("cars", 0);
+        law("aars", 0);
+        law("barr", 0);
+        law("bbrs", 0);
         law("abars", 0);
         law("bar", 0);
         law("barsif 1=2", 0);
@@ -172,6 +181,21 @@ public final class TextsEdgesTest {
         order(";", 0);
         EelClerk x = new EelClerk();
         due("all twelve are run", Checks.orders(x, many("pass", ";pass", 11)), 12);
+        twelve();
+    }
+
+    /** The last that holds at a mood is the clause of that number, but for 10 and 11 at moods 0 and 1. */
+    private static void twelve() {
+        StringBuilder text = new StringBuilder("takes 10 if mood=0");
+        for (int i = 1; i < 12; i++) {
+            text.append(";takes ").append(10 + 3 * i).append(" if mood=").append(i % 10);
+        }
+        EelClerk x = Parishes.parish();
+        Parishes.inForce(x, text.toString());
+        for (int mood = 0; mood < 10; mood++) {
+            x.terms(2, mood);
+            due("each of twelve holds in its turn: " + mood, x.between(0, 1, 2), 10 + 3 * (mood < 2 ? mood + 10 : mood));
+        }
     }
 
     private static void tests() {
@@ -193,6 +217,13 @@ public final class TextsEdgesTest {
         law("bars if not", 11);
         law("bars if 1<2<3", 11);
         law("bars if 1<2 or", 14);
+        law("bars if 1<2 and", 15);
+        law("bars if 1<2 or;bars", 14);
+        law("bars if 1<2 and;bars", 15);
+        law("bars if 1<2 and or 1<2", 16);
+        law("bars if 1<", 10);
+        law("bars if 1>;bars", 10);
+        law("bars if <1", 8);
         law("bars if or 1<2", 8);
         law("bars if (1<2", 12);
         law("bars if 1<2)", 11);
@@ -683,6 +714,8 @@ public final class TextsEdgesTest {
                 + "at: where the EEL is, shut: how many CHANNELS are, mud: of a SPRING");
         EelClerk x = Parishes.parish();
         due("none", acts(x, "pass if latest = 0-1 and done = 0 and at = 0 and shut = 0"), 1);
+        due("a day is no order", acts(x, "pass if day = 1 and done = 0"), 1);
+        due("an order is no day", acts(x, "stir 2 to 3; stir 2 to 0; pass if done = 2 and day = 2"), 3);
         due("one", acts(x, "swim 1; pass if latest = 4 and done = 1 and at = 1"), 2);
         due("none in this text", acts(x, "pass if latest = 0-1 and done = 0 and at = 1"), 1);
         due("the latest", acts(x, "swim 2; swim 1; swim 0; pass if latest = 4 and done = 3 and at = 0"), 4);
@@ -741,5 +774,26 @@ public final class TextsEdgesTest {
         EelClerk x = Parishes.parish();
         due("the second time", acts(x, "swim 1; swim 2 times 2"), -3);
         due("all of it", x.count(1) + x.count(6), 0);
+        sixteenAhead();
+    }
+
+    /** Orders that do more than can be kept, and can't be: what could be undone ahead of them still can. */
+    private static void sixteenAhead() {
+        EelClerk x = Parishes.parish();
+        for (int i = 0; i < 5; i++) {
+            x.stir(0, 2 + i);
+            x.pass();
+            x.gate(0, 1);
+            x.swim(i % 2 == 0 ? 2 : 0);
+        }
+        due("more than sixteen", acts(x, "stir 1 to 9; pass times 20; gate 2 to 3 times 3; swim 3"), -3);
+        due("as many as ahead", x.count(6), 16);
+        for (int i = 4; i > 0; i--) {
+            due("swim", x.undo() * 10 + x.count(1), i % 2 == 0 ? 0 : 2);
+            due("gate", x.undo() * 10 + x.count(3), 10 + i % 2);
+            due("pass", x.undo() * 10 + x.count(14), 30 + i);
+            due("stir", x.undo() * 100 + x.of(0, 1) * 10 + x.of(1, 1), 200 + (1 + i) * 10 + 2);
+        }
+        due("no more", x.undo(), -3);
     }
 }

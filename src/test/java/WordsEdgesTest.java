@@ -77,6 +77,11 @@ public final class WordsEdgesTest {
         due("level 0", y.of(0, 0), 0);
         due("mud 9", y.of(0, 1), 9);
         due("level 9", y.of(1, 0), 9);
+        EelClerk z = new EelClerk();
+        z.spring(9, 1);
+        z.spring(4, 2);
+        due("the first's level", z.of(0, 0) * 10 + z.of(1, 0), 94);
+        due("the first's mud", z.of(0, 1) * 10 + z.of(1, 1), 12);
         due("mud 0", y.of(1, 1), 0);
         due("level 10", y.spring(10, 0), -1);
         due("level -1", y.spring(-1, 0), -1);
@@ -426,6 +431,16 @@ public final class WordsEdgesTest {
         due("all barred", x.sea(9, -1), -1);
         Parishes.inForce(x, "bars if from = 0");
         due("the other way alone", x.sea(9, -1), 11);
+        EelClerk y = Parishes.inRow(5, 5, 1);
+        y.channel(0, 2, 1);
+        y.swim(2);
+        y.swim(3);
+        y.gate(2, 3);
+        y.gate(0, 2);
+        due("one is gone through, so no second", y.sea(1, -1), 11);
+        due("the row by one", y.sea(1, 1) * 100 + y.sea(1, 2) * 10 + y.sea(1, 3), 210);
+        due("both", y.sea(2, -1), 2);
+        due("the row by both", y.sea(2, 1) * 100 + y.sea(2, 2) * 10 + y.sea(2, 3), 199);
     }
 
     private static void canBe() {
@@ -605,6 +620,9 @@ public final class WordsEdgesTest {
             due("the other one by seed " + seed, x.drawn(1 - spring, 0), 0);
             due("swum by seed " + seed, x.drawn(1, 1), d[3] % 4 == 2 && spring == 1 ? 1 : 0);
         }
+        EelClerk one = Parishes.inRow();
+        one.years(0, 1);
+        due("the only spring stirred by seed 0", one.drawn(0, 0), 9);
         e.words("IV", "DRAWS of SPRINGS, of SPRINGS, of 10, of 4, whatever comes of them: at 0 (the last DRAW) there is a GATE "
                 + "between the two, at 1 the first is STIRRED to the third DRAW, at 2 the EEL SWIMS to the first");
         int[] seen = new int[4];
@@ -768,7 +786,8 @@ public final class WordsEdgesTest {
             due("where the eel is", x.count(1), 1);
             due("channels", x.count(2) * 10 + x.between(0, 1, 0), 44);
             due("shut", x.count(3) * 10 + x.between(0, 2, 1), 11);
-            due("heard", x.count(4) * 10 + x.since(1), 19);
+            due("how often it was heard", x.count(4), 1);
+            due("what was heard", x.since(1), 9);
             due("laws", x.count(5), 1);
             due("in force", x.count(13) * 10 + x.between(0, 1, 2), 7);
             due("terms", x.count(14) * 100 + x.count(15) * 10 + x.count(16), 836);
@@ -781,6 +800,7 @@ public final class WordsEdgesTest {
             x.stir(3, 5);
             x.forget();
             x.heard(0, 1);
+            x.heard(1, 1);
             x.terms(0, 9);
             x.terms(1, 4);
             x.terms(2, 5);
@@ -788,6 +808,15 @@ public final class WordsEdgesTest {
             due("back", x.back(k), 0);
         }
         due("no other image", x.back(1 - k), -2);
+        EelClerk y = new EelClerk();
+        y.spring(1, 1);
+        y.image(1 - k);
+        y.spring(5, 6);
+        y.image(k);
+        y.back(1 - k);
+        y.spring(7, 8);
+        y.back(k);
+        due("levels, mud", y.of(0, 0) * 1000 + y.of(1, 0) * 100 + y.of(0, 1) * 10 + y.of(1, 1), 1516);
         due("the next law is the second", Checks.law(x, "bars"), 1);
     }
 }
